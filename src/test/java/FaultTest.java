@@ -100,7 +100,14 @@ public final class FaultTest {
         faulty("some A:1", 1, 5);
         faulty("some ab:1", 1, 5);
         faulty("some a10:1", 1, 5);
-        faulty("some aB:1", 1, 5);
+        faulty("some aA:1", 1, 5);
+        faulty("some aZ:1", 1, 5);
+        faulty("some aza:1", 1, 5);
+        faulty("some a@:1", 1, 6);
+        faulty("some a[:1", 1, 6);
+        faulty("some a`:1", 1, 6);
+        faulty("some a{:1", 1, 6);
+        faulty("some a/:1", 1, 6);
         faulty("some 1a:1", 1, 5);
         faulty("somea:1", 1, 0);
         faulty("some a;alls b:1", 1, 7);

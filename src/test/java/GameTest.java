@@ -58,6 +58,13 @@ public final class GameTest {
         }
         CHECK.due("play(8)", x.play(8), false);
         CHECK.due("nothing was played", x.look(2), 0);
+        // Another game's blocks must not stay behind: wins() is the first call that asks here.
+        Check.read(x, "all a;some b;all c:a&b|c");
+        CHECK.due("wins(0) of a new game", x.wins(0), 1);
+        CHECK.due("wins(1) of a new game", x.wins(1), 0);
+        x.play(1);
+        CHECK.due("behind a move", x.wins(1), 1);
+        CHECK.due("behind a move", x.wins(0), 0);
     }
 
     private static void movesOfAll() {
