@@ -2,13 +2,19 @@
 final class Check {
     private int passed;
     private int failed;
+    private String sentence = "";
+
+    /** What is checked from here on shows whether these words of the document hold. */
+    void sentence(String words) {
+        sentence = "[" + words + "] ";
+    }
 
     void due(String what, long got, long want) {
         if (got == want) {
             passed++;
         } else {
             failed++;
-            System.out.println(what + " answered " + got + ", due is " + want);
+            System.out.println(sentence + what + " answered " + got + ", due is " + want);
         }
     }
 
@@ -18,9 +24,26 @@ final class Check {
 
     void due(String what, String got, String want) {
         if (!got.equals(want)) {
-            System.out.println(what + " answered '" + got + "', due is '" + want + "'");
+            System.out.println(sentence + what + " answered '" + got + "', due is '" + want + "'");
         }
         due(what + " (as a text)", got.equals(want), true);
+    }
+
+    /** The text has that fault at that place. */
+    void faulty(String text, int fault, int place) {
+        ChoiceGame x = new ChoiceGame();
+        due("read of '" + text + "'", read(x, text), -2);
+        due("fault of '" + text + "'", x.fault(0), fault);
+        due("place in '" + text + "'", x.fault(1), place);
+        due("others of '" + text + "'", x.fault(2), -1);
+    }
+
+    /** The text has no fault and that many blocks. */
+    void fine(String text, int blocks) {
+        ChoiceGame x = new ChoiceGame();
+        due("read of '" + text + "'", read(x, text), blocks);
+        due("fault of '" + text + "'", x.fault(0), 0);
+        due("place in '" + text + "'", x.fault(1), -1);
     }
 
     boolean hasFailed() {

@@ -16,18 +16,11 @@ public final class FaultTest {
     }
 
     private static void faulty(String text, int fault, int place) {
-        ChoiceGame x = new ChoiceGame();
-        CHECK.due("read of '" + text + "'", Check.read(x, text), -2);
-        CHECK.due("fault of '" + text + "'", x.fault(0), fault);
-        CHECK.due("place in '" + text + "'", x.fault(1), place);
-        CHECK.due("others of '" + text + "'", x.fault(2), -1);
+        CHECK.faulty(text, fault, place);
     }
 
     private static void fine(String text, int blocks) {
-        ChoiceGame x = new ChoiceGame();
-        CHECK.due("read of '" + text + "'", Check.read(x, text), blocks);
-        CHECK.due("fault of '" + text + "'", x.fault(0), 0);
-        CHECK.due("place in '" + text + "'", x.fault(1), -1);
+        CHECK.fine(text, blocks);
     }
 
     private static void faultOfOthers() {
