@@ -256,6 +256,7 @@ public final class TapeEdgesTest {
             ChoiceGame x = Check.of("some a b1;all c;some d:(a>b1)&(c^d)");
             x.play(1);
             x.play(0);
+            x.write();
             String before = Snapshot.ofGame(x);
             CHECK.due("read of '" + text + "'", Check.read(x, text), -2);
             CHECK.due("the game behind '" + text + "'", Snapshot.ofGame(x), before);

@@ -200,6 +200,9 @@ public final class WriteEdgesTest {
         x.write();
         Check.read(x, ":0");
         CHECK.due("a new game is not written by being read", x.octet(2), 'b');
+        Check.read(x, ":");
+        CHECK.due("a faulty text leaves it, too", x.octet(2), 'b');
+        CHECK.due("and its end", x.octet(3), -1);
         CHECK.due("write", x.write(), 1);
         CHECK.due("octet(0)", x.octet(0), '0');
         CHECK.due("a longer one is gone", x.octet(1), -1);
